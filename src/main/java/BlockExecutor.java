@@ -280,7 +280,6 @@ public final class BlockExecutor {
             held[w] = NOTHING;
         }
         for (int t = 0; t < MOST_TRANSACTIONS; t++) {
-            clear(t);
             state[t] = WAITING;
         }
         settled = 0;

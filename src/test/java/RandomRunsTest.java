@@ -24,7 +24,7 @@ public final class RandomRunsTest {
     private RandomRunsTest(int seed) {
         this.seed = seed;
         random = new Random(seed);
-        cells = 1 + random.nextInt(16);
+        cells = 1 + random.nextInt(1 + random.nextInt(16));
         x = new BlockExecutor(random.nextInt(10) == 0 ? random.nextInt() : 1 + random.nextInt(9));
     }
 
