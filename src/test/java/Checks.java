@@ -6,35 +6,39 @@ final class Checks {
     static final int RUNNING = -4;
     static final int NONE = -5;
 
-    static final int SET = 0;
-    static final int ADD = 1;
-    static final int SUB = 2;
-    static final int LOAD = 3;
-    static final int STORE = 4;
-    static final int MUL = 5;
-    static final int SKIP = 6;
-    static final int NEED = 7;
-    static final int PUT = 8;
-    static final int REACH = 9;
-    static final int PLACE = 10;
-    static final int STOP = 11;
+    static final int MAX = Integer.MAX_VALUE;
+    static final int MIN = Integer.MIN_VALUE;
 
+    // A fault that shows everywhere would fill pages.
+    private static final int MOST_LINES = 100;
+
+    private static String about = "";
     private static int wrong = 0;
 
     private Checks() {
     }
 
+    /** What the checks that follow belong to; it stands before each wrong answer that is printed. */
+    static void about(String what) {
+        about = what;
+    }
+
     static void due(String call, long got, long want) {
         if (got != want) {
-            wrong++;
-            System.out.println(call + " answered " + got + ", due is " + want);
+            wrong(call + " answered " + got + ", due is " + want);
         }
     }
 
     static void dueTrue(String what, boolean holds) {
         if (!holds) {
-            wrong++;
-            System.out.println("does not hold: " + what);
+            wrong("does not hold: " + what);
+        }
+    }
+
+    static void wrong(String line) {
+        wrong++;
+        if (wrong <= MOST_LINES) {
+            System.out.println(about + line);
         }
     }
 
@@ -49,17 +53,18 @@ final class Checks {
         }
     }
 
-    static int places(int a, int b) {
-        return 4 * a + b;
+    /** Adds a transaction, its instructions in words. */
+    static void transaction(BlockExecutor x, String... lines) {
+        x.begin();
+        for (int i = 0; i < lines.length; i++) {
+            due("add of " + lines[i], add(x, lines[i]), i);
+        }
     }
 
-    /** Adds a transaction; the code is a list of operation, a, b, n. */
-    static void transaction(BlockExecutor x, int... code) {
-        x.begin();
-        for (int i = 0; i + 3 < code.length; i += 4) {
-            int position = x.add(code[i], places(code[i + 1], code[i + 2]), code[i + 3]);
-            due("add, position", position, i / 4);
-        }
+    /** Adds an instruction, in words. */
+    static int add(BlockExecutor x, String line) {
+        int[] code = Code.of(line);
+        return x.add(code[0], code[1], code[2]);
     }
 
     /** All sixteen cells are as told; cells that are not told are 0. */
@@ -71,5 +76,25 @@ final class Checks {
             sum += (i + 1) * want;
         }
         due(when + ": digest()", x.digest(), sum);
+    }
+
+    /** Transaction t is done and has put out these numbers, and no others. */
+    static void dueOuts(String what, BlockExecutor x, int t, int... outs) {
+        due(what + ": result(" + t + ")", x.result(t), 1);
+        due(what + ": outs(" + t + ")", x.outs(t), outs.length);
+        for (int k = 0; k < outs.length; k++) {
+            due(what + ": out(" + t + ", " + k + ")", x.out(t, k), outs[k]);
+        }
+        due(what + ": out(" + t + ", " + outs.length + ")", x.out(t, outs.length), 0);
+    }
+
+    /** Transaction t failed, and nothing of it counts. */
+    static void dueFailed(String what, BlockExecutor x, int t) {
+        due(what + ": result(" + t + ")", x.result(t), 0);
+        due(what + ": outs(" + t + ")", x.outs(t), 0);
+        due(what + ": stored(" + t + ")", x.stored(t), 0);
+        for (int k = 0; k < 12; k++) {
+            due(what + ": out(" + t + ", " + k + ")", x.out(t, k), 0);
+        }
     }
 }

@@ -99,20 +99,20 @@ final class Model {
             int n = c[3];
             at++;
             switch (c[0]) {
-                case Checks.SET -> r[a] = n;
-                case Checks.ADD -> r[a] = r[a] + r[b];
-                case Checks.SUB -> r[a] = r[a] - r[b];
-                case Checks.LOAD -> r[a] = view[n & 15];
-                case Checks.STORE -> {
+                case Code.SET -> r[a] = n;
+                case Code.ADD -> r[a] = r[a] + r[b];
+                case Code.SUB -> r[a] = r[a] - r[b];
+                case Code.LOAD -> r[a] = view[n & 15];
+                case Code.STORE -> {
                     view[n & 15] = r[a];
                     bits |= 1 << (n & 15);
                 }
-                case Checks.MUL -> r[a] = r[a] * r[b];
-                case Checks.SKIP -> at += r[a] < r[b] ? 1 : 0;
-                case Checks.NEED -> ok = r[a] >= n;
-                case Checks.PUT -> put.add(r[a]);
-                case Checks.REACH -> r[a] = view[r[b] & 15];
-                case Checks.PLACE -> {
+                case Code.MUL -> r[a] = r[a] * r[b];
+                case Code.SKIP -> at += r[a] < r[b] ? 1 : 0;
+                case Code.NEED -> ok = r[a] >= n;
+                case Code.PUT -> put.add(r[a]);
+                case Code.REACH -> r[a] = view[r[b] & 15];
+                case Code.PLACE -> {
                     view[r[b] & 15] = r[a];
                     bits |= 1 << (r[b] & 15);
                 }
