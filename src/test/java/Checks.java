@@ -10,9 +10,10 @@ final class Checks {
     static final int MIN = Integer.MIN_VALUE;
 
     // A fault that shows everywhere would fill pages.
-    private static final int MOST_LINES = 100;
+    private static final int MOST_LINES = 10;
 
     private static String about = "";
+    private static int lines = 0;
     private static int wrong = 0;
 
     private Checks() {
@@ -21,6 +22,7 @@ final class Checks {
     /** What the checks that follow belong to; it stands before each wrong answer that is printed. */
     static void about(String what) {
         about = what;
+        lines = 0;
     }
 
     static void due(String call, long got, long want) {
@@ -37,8 +39,11 @@ final class Checks {
 
     static void wrong(String line) {
         wrong++;
-        if (wrong <= MOST_LINES) {
+        lines++;
+        if (lines <= MOST_LINES) {
             System.out.println(about + line);
+        } else if (lines == MOST_LINES + 1) {
+            System.out.println(about + ".. and more");
         }
     }
 

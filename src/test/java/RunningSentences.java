@@ -158,6 +158,7 @@ final class RunningSentences {
                 String p = "work with " + first + " and " + second + " steps";
                 Checks.due(p, x.work(5, first), 0);
                 Checks.due(p, x.work(-7, second), 0);
+                Checks.dueCells(p + ": nothing shows", x);
                 Checks.due(p + ": run(9)", x.run(9), 2);
                 Checks.dueCells(p, x, 0, 0, 0, 0, 15);
                 Checks.dueOuts(p, x, 0, 7);

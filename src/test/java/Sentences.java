@@ -75,7 +75,8 @@ final class Sentences {
         for (String name : parts.keySet()) {
             if (!WITHOUT_TESTS.contains(name)) {
                 for (String sentence : untested(name)) {
-                    Checks.wrong(name + ", \"" + sentence + "\": there is no test of it");
+                    Checks.about(name + ", \"" + sentence + "\": ");
+                    Checks.wrong("there is no test of it");
                 }
             }
         }
