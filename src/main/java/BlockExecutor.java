@@ -2,11 +2,11 @@
  * Carries out a block of small programs at the same time, so that it comes out as if they had been
  * carried out one after the other.
  *
- * <p>Each worker carries out one transaction at a time, one instruction a step, without waiting for
- * the transactions before it. What a transaction stores is kept as its own version of the cells,
- * and what it saw of the cells is kept too. The transactions are settled in their order: if one saw
- * something that is not so any more, it is carried out again. A transaction whose predecessors are
- * all settled sees what stays, so none is carried out more than twice.
+ * <p>Each worker has one transaction at a time in hand and carries it out, one instruction a step,
+ * without waiting for the transactions before it. What a transaction stores is kept as its own
+ * version of the cells, and what it saw of the cells is kept too. The transactions are settled in
+ * their order: if one saw something that is not so any more, it is carried out again. A transaction
+ * whose predecessors are all settled sees what stays, so none is carried out more than twice.
  */
 public final class BlockExecutor {
     public static final int BAD = -1;
@@ -27,7 +27,14 @@ public final class BlockExecutor {
 
     // More workers than transactions would have nothing to do.
     private static final int MOST_WORKERS = 8;
-    private static final int WORKER_MASK = 7;
+
+    // The schedule is read three bits at a time, round and round.
+    private static final int TURN_BITS = 3;
+    private static final int TURN_MASK = 7;
+    private static final int OTHER_BITS = 32 - TURN_BITS;
+
+    // At worst one worker alone has a transaction in hand, and is passed over seven times.
+    private static final int LONGEST_WAY = MOST_WORKERS * (TURN_MASK + 1);
 
     // Far above what a block can need: eight transactions, each taken, carried out and looked at
     // twice, are less than three hundred steps.
@@ -71,6 +78,7 @@ public final class BlockExecutor {
     // A finished block's store can be poked, so what its transactions began on is kept apart.
     private final int[] before = new int[CELLS];
     private int settled = 0;
+    private int turn = 0;
     private final int[] held = new int[MOST_WORKERS];
 
     private final int[] state = new int[MOST_TRANSACTIONS];
@@ -283,6 +291,7 @@ public final class BlockExecutor {
             state[t] = WAITING;
         }
         settled = 0;
+        turn = 0;
         stage = IS_BEGUN;
     }
 
@@ -297,16 +306,34 @@ public final class BlockExecutor {
         outCount[t] = 0;
     }
 
-    // The schedule is read three bits at a time, round and round: each names the worker whose turn
-    // it is.
+    // A free worker that finds something to do comes first: whatever the schedule, as many work at
+    // the same time as there are workers and transactions for them. Which of those that have a
+    // transaction in hand goes on, the schedule says.
     private void makeSteps(int schedule, int steps) {
         int turns = schedule;
         for (int i = 0; i < steps && i < MOST_STEPS && settled < count; i++) {
+            int free = firstFree();
             int waiting = firstWaiting();
-            int worker = ableWorker(turns & WORKER_MASK, waiting);
-            step(worker, waiting);
-            turns = (turns >>> 3) | (turns << 29);
+            if (free != NOTHING && state[settled] == CARRIED_OUT) {
+                settle();
+            } else if (free != NOTHING && waiting != NOTHING) {
+                take(free, waiting);
+            } else {
+                int worker = nextBusy(turns & TURN_MASK);
+                goOn(worker);
+                turn = worker + 1;
+                turns = (turns >>> TURN_BITS) | (turns << OTHER_BITS);
+            }
         }
+    }
+
+    private int firstFree() {
+        for (int w = 0; w < workers; w++) {
+            if (held[w] == NOTHING) {
+                return w;
+            }
+        }
+        return NOTHING;
     }
 
     private int firstWaiting() {
@@ -318,23 +345,43 @@ public final class BlockExecutor {
         return NOTHING;
     }
 
-    // A worker without anything to do passes its turn on; otherwise a schedule that names only that
-    // one would keep the block from its end.
-    private int ableWorker(int first, int waiting) {
-        boolean isWorkForFree = waiting != NOTHING || state[settled] == CARRIED_OUT;
-        for (int i = 0; i < MOST_WORKERS; i++) {
-            int worker = (first + i) & WORKER_MASK;
-            if (worker < workers && (isWorkForFree || held[worker] != NOTHING)) {
-                return worker;
+    // With nobody passed over, the workers go on in turn; so a schedule of 0 is an even one.
+    private int nextBusy(int passedOver) {
+        int left = passedOver;
+        int worker = turn;
+        for (int i = 0; i < LONGEST_WAY; i++) {
+            if (worker >= workers) {
+                worker = 0;
             }
+            if (held[worker] != NOTHING) {
+                if (left == 0) {
+                    return worker;
+                }
+                left--;
+            }
+            worker++;
         }
         return 0;
     }
 
-    private void step(int worker, int waiting) {
+    private void settle() {
+        if (seesTheSame(settled)) {
+            state[settled] = SETTLED;
+            settled++;
+        } else {
+            state[settled] = WAITING;
+        }
+    }
+
+    private void take(int worker, int t) {
+        clear(t);
+        state[t] = TAKEN;
+        held[worker] = t;
+    }
+
+    private void goOn(int worker) {
         int t = held[worker];
         if (t == NOTHING) {
-            takeWork(worker, waiting);
             return;
         }
         if (position[t] < length[t]) {
@@ -343,21 +390,6 @@ public final class BlockExecutor {
         if (position[t] >= length[t]) {
             state[t] = CARRIED_OUT;
             held[worker] = NOTHING;
-        }
-    }
-
-    private void takeWork(int worker, int waiting) {
-        if (state[settled] != CARRIED_OUT) {
-            if (waiting != NOTHING) {
-                clear(waiting);
-                state[waiting] = TAKEN;
-                held[worker] = waiting;
-            }
-        } else if (seesTheSame(settled)) {
-            state[settled] = SETTLED;
-            settled++;
-        } else {
-            state[settled] = WAITING;
         }
     }
 
@@ -467,7 +499,8 @@ public final class BlockExecutor {
     }
 
     private boolean isInOrder(int t) {
-        return (t < settled) == (state[t] == SETTLED);
+        boolean mustBeSettled = t < settled || stage == IS_FINISHED;
+        return mustBeSettled == (state[t] == SETTLED);
     }
 
     private void keepStores() {

@@ -65,6 +65,8 @@ public final class InterleavingTest {
         for (String[] lines : BLOCKS[number]) {
             x.transaction(lines);
         }
+        // Each has one in hand before the first step that is chosen.
+        x.work(0, Math.min(WORKERS, BLOCKS[number].length));
         int rest = order;
         for (int i = 0; i < STEPS; i++) {
             x.work(rest % WORKERS, 1);

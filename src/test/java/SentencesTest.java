@@ -10,6 +10,7 @@ public final class SentencesTest {
         BuildingSentences.tell(sentences);
         RunningSentences.tell(sentences);
         AnswerSentences.tell(sentences);
+        UnseenSentences.tell(sentences);
         sentences.dueAllTested();
         Checks.end();
     }
