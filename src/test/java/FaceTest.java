@@ -1,35 +1,25 @@
-import java.io.IOException;
 import java.lang.reflect.Constructor;
 import java.lang.reflect.Field;
 import java.lang.reflect.Method;
 import java.lang.reflect.Modifier;
-import java.nio.file.Files;
-import java.nio.file.Path;
 import java.util.Arrays;
 import java.util.HashSet;
 import java.util.List;
 import java.util.Set;
 import java.util.TreeSet;
-import java.util.regex.Matcher;
-import java.util.regex.Pattern;
 
-/** The public face of the document, and the rules of LANGUAGE.md that can be seen from outside. */
+/** The public face of the document, and no other member that can be seen from outside. */
 public final class FaceTest {
-    private static final Path SOURCE = Path.of("src/main/java/BlockExecutor.java");
     private static final List<String> METHODS = List.of("begin()", "add(int, int, int)", "undo()",
             "poke(int, int)", "run(int)", "work(int, int)", "phase()", "next()", "cell(int)",
             "digest()", "transactions()", "result(int)", "outs(int)", "out(int, int)",
             "stored(int)", "faults()");
-    private static final String FORBIDDEN_WORDS = "package import throw throws try catch synchronized"
-            + " assert instanceof null float double String Math Integer System Arrays Object Thread"
-            + " interface enum record protected getClass hashCode toString equals clone notify wait";
 
-    public static void main(String[] args) throws IOException {
+    public static void main(String[] args) {
         constants();
         classAndConstructor();
         methods();
         fields();
-        words();
         Checks.end();
     }
 
@@ -95,19 +85,5 @@ public final class FaceTest {
         Checks.dueTrue("the constants are those of the document: " + open,
                 open.equals(Set.of("BAD", "FULL", "FINISHED", "RUNNING", "NONE")));
         Checks.dueTrue("at most forty fields", own <= 40);
-    }
-
-    private static void words() throws IOException {
-        String code = Files.readString(SOURCE).replaceAll("(?s)/\\*.*?\\*/", " ")
-                .replaceAll("//[^\n]*", " ");
-        Set<String> forbidden = Set.of(FORBIDDEN_WORDS.split(" "));
-        Matcher word = Pattern.compile("[A-Za-z_]\\w*").matcher(code);
-        while (word.find()) {
-            Checks.dueTrue("the word " + word.group() + " is not used",
-                    !forbidden.contains(word.group()));
-        }
-        for (String sign : List.of("->", "::", "@", "\"", "[][]", "[] [")) {
-            Checks.dueTrue("the sign " + sign + " is not used", !code.contains(sign));
-        }
     }
 }

@@ -50,6 +50,14 @@ final class Inside {
         return (int) value(field("settled"));
     }
 
+    void setSettled(int count) {
+        try {
+            field("settled").set(x, count);
+        } catch (ReflectiveOperationException e) {
+            throw new IllegalStateException(e);
+        }
+    }
+
     /** How many workers have a transaction in hand. */
     int inHand() {
         int found = 0;

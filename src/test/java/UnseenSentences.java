@@ -237,11 +237,20 @@ final class UnseenSentences {
         dueFaults("two", x, 2);
         x.next();
         dueFaults("of a new block no versions are kept", x, 0);
-        x = new BlockExecutor(2);
-        Checks.transaction(x, "SET 0 1", "PUT 0");
+        x = finishedChain();
+        new Inside(x).numbers("state")[7] = Inside.CARRIED_OUT;
+        new Inside(x).setSettled(7);
+        dueFaults("it is finished, but the last one was not settled", x, 1);
+        oneFailed("one that failed has put out", "SET 0 1", "PUT 0");
+        oneFailed("one that failed has stored", "SET 0 1", "STORE 0 1");
+    }
+
+    private static void oneFailed(String planted, String... lines) {
+        BlockExecutor x = new BlockExecutor(2);
+        Checks.transaction(x, lines);
         x.run(0);
         new Inside(x).signs("failed")[0] = true;
-        dueFaults("one that failed has put out", x, 1);
+        dueFaults(planted, x, 1);
     }
 
     private static void faultsWhileItRuns() {
